@@ -1,7 +1,14 @@
 import java.util.Arrays;
 
-/** Counts and prints the answers that are not the ones due; shared by the tests. */
+/** Counts and prints the answers that are not the ones due, for every test of the project. */
 final class Checks {
+    static final int LEAST = Integer.MIN_VALUE;
+    static final int MOST = Integer.MAX_VALUE;
+    static final int[] NO_SETS = {-1, 4, LEAST, MOST};
+    static final int[] NO_NUMBERS = {-1, 1024, LEAST, MOST};
+
+    private static final int MOST_TOLD = 100;
+
     private final String test;
     private int made = 0;
     private int wrong = 0;
@@ -10,11 +17,14 @@ final class Checks {
         this.test = test;
     }
 
+    static int ends(int a, int b) {
+        return a + 2048 * b;
+    }
+
     void due(String call, long got, long want) {
         made++;
         if (got != want) {
-            wrong++;
-            System.out.println(test + ": " + call + " answered " + got + ", due is " + want);
+            tell(call + " answered " + got + ", due is " + want);
         }
     }
 
@@ -30,14 +40,17 @@ final class Checks {
             got[k] = sets.select(s, k);
         }
         if (!Arrays.equals(got, want)) {
-            wrong++;
-            System.out.println(test + ": " + when + ", set " + s + " holds "
-                    + Arrays.toString(got) + ", due is " + Arrays.toString(want));
+            tell(when + ", set " + s + " holds " + Arrays.toString(got)
+                    + ", due is " + Arrays.toString(want));
         }
     }
 
-    int wrong() {
-        return wrong;
+    // One early fault can spoil thousands of later answers, which would hide it.
+    private void tell(String fault) {
+        wrong++;
+        if (wrong <= MOST_TOLD) {
+            System.out.println(test + ": " + fault);
+        }
     }
 
     void end() {
