@@ -7,11 +7,13 @@ final class Checks {
     static final int[] NO_SETS = {-1, 4, LEAST, MOST};
     static final int[] NO_NUMBERS = {-1, 1024, LEAST, MOST};
 
-    private static final int MOST_TOLD = 100;
+    private static final int MOST_TOLD = 20;
 
     private final String test;
+    private String about = "";
     private int made = 0;
     private int wrong = 0;
+    private int told = 0;
 
     Checks(String test) {
         this.test = test;
@@ -19,6 +21,22 @@ final class Checks {
 
     static int ends(int a, int b) {
         return a + 2048 * b;
+    }
+
+    /** Runs the test of one sentence; its faults are told with the sentence's words. */
+    void sentence(String where, String words, Runnable itsTest) {
+        about = where + " \"" + words + "\": ";
+        told = 0;
+        int before = made;
+        try {
+            itsTest.run();
+        } catch (RuntimeException thrown) {
+            tell("threw " + thrown);
+        }
+        if (made == before) {
+            tell("its test checks nothing");
+        }
+        about = "";
     }
 
     void due(String call, long got, long want) {
@@ -48,8 +66,9 @@ final class Checks {
     // One early fault can spoil thousands of later answers, which would hide it.
     private void tell(String fault) {
         wrong++;
-        if (wrong <= MOST_TOLD) {
-            System.out.println(test + ": " + fault);
+        told++;
+        if (told <= MOST_TOLD) {
+            System.out.println(test + ": " + about + fault);
         }
     }
 
