@@ -50,6 +50,13 @@ final class Checks {
         due(call, got ? 1 : 0, want ? 1 : 0);
     }
 
+    void kept(String rule, boolean kept) {
+        made++;
+        if (!kept) {
+            tell("not kept: " + rule);
+        }
+    }
+
     /** Set s holds these numbers, given in rising order, and no others. */
     void holds(String when, ContainerSets sets, int s, int... want) {
         made++;
